@@ -394,7 +394,7 @@ public final class MakersBench {
     }
 
     private static int partsOf(int kind) {
-        return within(kind, NUMBER, IF) ? PARTS[kind] : 0;
+        return kind >= 0 && kind < PARTS.length ? PARTS[kind] : 0;
     }
 
     /** The VALUE of a NODE with two PARTS; who calls has seen to it that nothing is divided by 0. */
@@ -953,7 +953,7 @@ public final class MakersBench {
 
         /**
          * Reads the nodes in their order and appends them to the new row. A node is looked at as soon as none of
-         * its parts is missing; its run is then the end of the new row.
+         * its parts is missing, its run being the end of the new row then; no sort looks at one without parts.
          */
         int apply(int sort, int fault) {
             int fired = 0;
@@ -961,18 +961,22 @@ public final class MakersBench {
             next.clear();
             for (int i = 0; i < now.length && depth < MOST_NODES; i++) {
                 int kind = now.kindOf(i);
-                open[depth] = next.length;
-                missing[depth] = partsOf(kind);
-                depth++;
                 next.append(kind, now.numberOf(i));
-                int unread = now.length - 1 - i;
-                for (; depth > 0 && missing[depth - 1] == 0; depth--) {
-                    next.close(open[depth - 1]);
-                    if (Rules.fire(next, open[depth - 1], sort, fault, unread)) {
-                        fired++;
+                if (partsOf(kind) > 0) {
+                    open[depth] = next.length - 1;
+                    missing[depth] = partsOf(kind);
+                    depth++;
+                    continue;
+                }
+                for (int top = depth - 1; top >= 0; top--) {
+                    missing[top]--;
+                    if (missing[top] > 0) {
+                        break;
                     }
-                    if (depth > 1) {
-                        missing[depth - 2]--;
+                    depth = top;
+                    next.close(open[top]);
+                    if (Rules.fire(next, open[top], sort, fault, now.length - 1 - i)) {
+                        fired++;
                     }
                 }
             }

@@ -24,6 +24,9 @@ public final class ModelTest {
         Due due = new Due();
         for (int seed = 0; seed < runs && !due.anyWrong(); seed++) {
             new ModelTest(due, seed).run();
+            if (seed % 3 == 0) {
+                new ModelTest(due, seed).runLarge();
+            }
         }
         byNumber(due);
         inOrder(due);
@@ -41,6 +44,48 @@ public final class ModelTest {
         for (int place = 0; place < 20; place++) {
             compareTree("read at the end, place " + place, model.places[place], place);
         }
+    }
+
+    /** Trees that TWICE makes as large as may be, with all kinds in them, and the other sorts behind it. */
+    private void runLarge() {
+        due.topic("large, " + random.nextInt());
+        int doubles = 3 + below(4);
+        grow(1 + below(12));
+        for (int i = 0; i < doubles; i++) {
+            node(0, 2);
+            node(6, 0);
+        }
+        for (int left = 58 - model.count(3); left > 3; left = 58 - model.count(3)) {
+            grow(1 + below(Math.min(left - 2, 12)));
+            node(below(4) == 0 ? 5 : 4, 0);
+        }
+        while (model.pile.size() > 1) {
+            node(4, 0);
+        }
+        check("keep(0)", bench.keep(0), model.keep(0));
+        check("maker()", bench.maker(), model.maker());
+        for (int i = 0; i < 10; i++) {
+            int sort = i == 0 || i == 3 ? 5 : below(7), fault = below(2) == 0 ? 0 : below(3);
+            check("turn", bench.turn(0, sort, fault), model.turn(0, sort, fault));
+        }
+        for (int n = 0; n <= 10; n++) {
+            check("made(0, 0, " + n + ")", bench.made(0, 0, n), model.made(0, 0, n));
+            List<Model.Node> nodes = new ArrayList<>();
+            Model.list(model.found, nodes);
+            for (int i = 0; i < nodes.size(); i++) {
+                due.is("KIND of part " + i, bench.part(i, 0), nodes.get(i).kind());
+                due.is("v of part " + i, bench.part(i, 1), nodes.get(i).v());
+                due.is("SIZE of part " + i, bench.part(i, 2), nodes.get(i).size());
+            }
+            due.is("nothing behind", bench.part(nodes.size(), 0), Model.VOID);
+        }
+        for (int a = -2; a <= 2; a++) {
+            check("answer", bench.answer(0, 0, a, 1), model.answer(0, 0, a, 1));
+            check("cost", bench.cost(0, 0, a, 1), model.cost(0, 0, a, 1));
+            check("cause", bench.cause(0, 0, a, 1), model.cause(0, 0, a, 1));
+        }
+        check("never(0)", bench.never(0), model.never(0));
+        check("first(0, 0, 2)", bench.first(0, 0, 2), model.first(0, 0, 2));
     }
 
     private void check(String call, long got, long want) {

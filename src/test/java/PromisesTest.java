@@ -691,6 +691,13 @@ public final class PromisesTest {
             turns(6, fault, "a #4 + neg b #5 + +", fault == 1 ? "- + a #4 + b #5" : "+ neg + a #4 + b #5",
                 fault == 1 ? 1 : 0);
         }
+        MakersBench x = withMaker(5, 0, 6, 0);
+        String two = " #2 *";
+        put(x, 0, "a b neg +" + two.repeat(5) + " a" + " neg".repeat(37) + " +");
+        is("TWICE", x.made(0, 0, 1), 159 + 38 + 1);
+        // Of the 37 NEG one stays, and the ADD on top takes it.
+        is("SINK in a large tree", x.made(0, 0, 2), 127 + 1 + 1);
+        is("fires", x.fires(0, 0, 1), 32 + 18 + 1);
         turns(6, 0, "a neg neg neg", "neg a", 1);
         turns(6, 0, "a neg neg neg neg", "a", 2);
     }
@@ -777,6 +784,14 @@ public final class PromisesTest {
         MakersBench x = withMaker(5, 0);
         put(x, 0, "a #2 * #2 *");
         is("of what was MADE", x.cost(0, 0, 0, 0), 7);
+        // 200 NODES, 45 of them IF: more orders than NODES.
+        String two = " #2 *";
+        put(x, 2, "a b #1 if" + two.repeat(5) + " a a".repeat(13) + " b" + " if".repeat(13) + " +");
+        is("MADE", x.made(0, 2, 1), 200);
+        is("cost for 0", x.cost(0, 2, 0, 5), 32 * 3 + 31 + 13 * 2 + 1 + 1);
+        is("cost for 1", x.cost(0, 2, 1, 5), 32 * 4 + 31 + 4 + 1);
+        is("answer for 0", x.answer(0, 2, 0, 5), 32 + 5);
+        is("answer for 1", x.answer(0, 2, 1, 5), 32 * 5 + 1);
         is("no maker", x.cost(1, 0, 0, 0), BAD);
         is("maker -1", x.cost(-1, 0, 0, 0), BAD);
         is("empty", x.cost(0, 1, 0, 0), BAD);
