@@ -139,8 +139,7 @@ public final class MakersBench {
         if (program == null || !within(k, 0, WIDEST)) {
             return BAD;
         }
-        right.write(program);
-        return right.isNeverFree(k) ? 1 : 0;
+        return isSafe(program, k) ? 1 : 0;
     }
 
     public int breed(int place, int first, int i, int second, int j) {
@@ -308,7 +307,7 @@ public final class MakersBench {
         if (chosen == null || program == null || !within(k, 0, WIDEST)) {
             return BAD;
         }
-        if (workshop.make(chosen, program, chosen.turns) == 0 || !showsFault(program, k)) {
+        if (!isFaulty(chosen, program, k)) {
             return NOT;
         }
         int did = 0;
@@ -515,7 +514,10 @@ public final class MakersBench {
         return wrong;
     }
 
-    /** Looks for the first STEP that leaves a faulty program; the candidate is that program then. */
+    /**
+     * Looks for the first STEP that leaves a faulty program; the candidate is that program then.
+     * What isFaulty does is done here itself: by way of it, calls would go more than eight deep.
+     */
     private boolean shrink(Maker chosen, Tree program, int k) {
         for (int i = 0; i < program.length; i++) {
             int parts = partsOf(program.kindOf(i));
