@@ -1,9 +1,6 @@
 /** For each promise of the document: ordinary inputs, the edges it names, wrong inputs. Answers worked out by hand. */
-public final class PromisesTest {
-    private static final int BAD = -1, NOT = -2, FULL = -3, VOID = -2000000000, NONE = -5;
-    private static final int A = 1, B = 2, NEG = 3, ADD = 4, LESS = 5, TIMES = 6, OVER = 7, IF = 8;
+public final class PromisesTest extends Trial {
     private static final int[] WRONG_PLACES = {-1, 20, Integer.MIN_VALUE, Integer.MAX_VALUE};
-    private static final Due DUE = new Due();
 
     public static void main(String[] args) {
         newObject();
@@ -44,91 +41,6 @@ public final class PromisesTest {
         count();
         ofMaker();
         DUE.end();
-    }
-
-    private static void is(String call, long got, long want) {
-        DUE.is(call, got, want);
-    }
-
-    /** Numbers are written as #v; other words are kinds, in the order of node(). */
-    private static int put(MakersBench x, int place, String postfix) {
-        for (String word : postfix.split(" ")) {
-            int answer;
-            if (word.startsWith("#")) {
-                answer = x.node(0, Integer.parseInt(word.substring(1)));
-            } else {
-                answer = x.node(kind(word), 0);
-            }
-            DUE.holds("node for " + word + " of " + postfix, answer > 0);
-        }
-        return x.keep(place);
-    }
-
-    private static int kind(String word) {
-        switch (word) {
-            case "a": return A;
-            case "b": return B;
-            case "neg": return NEG;
-            case "+": return ADD;
-            case "-": return LESS;
-            case "*": return TIMES;
-            case "/": return OVER;
-            case "if": return IF;
-            default: return -9;
-        }
-    }
-
-    /** The nodes in the order of STEPS, as words. */
-    private static String told(MakersBench x, int place) {
-        StringBuilder out = new StringBuilder();
-        for (int i = 0; x.read(place, i, 0) != VOID; i++) {
-            word(out, x.read(place, i, 0), x.read(place, i, 1));
-        }
-        return out.toString();
-    }
-
-    private static String toldPart(MakersBench x) {
-        StringBuilder out = new StringBuilder();
-        for (int i = 0; x.part(i, 0) != VOID; i++) {
-            word(out, x.part(i, 0), x.part(i, 1));
-        }
-        return out.toString();
-    }
-
-    private static void word(StringBuilder out, int kind, int v) {
-        String[] words = {"#" + v, "a", "b", "neg", "+", "-", "*", "/", "if"};
-        out.append(out.length() == 0 ? "" : " ").append(words[kind]);
-    }
-
-    private static void same(String what, String got, String want) {
-        if (!got.equals(want)) {
-            System.out.println(what + " is " + got + ", due is " + want);
-        }
-        DUE.holds(what, got.equals(want));
-    }
-
-    private static MakersBench withMaker(int... sortsAndFaults) {
-        MakersBench x = new MakersBench();
-        addMaker(x, sortsAndFaults);
-        return x;
-    }
-
-    private static int addMaker(MakersBench x, int... sortsAndFaults) {
-        int m = x.maker();
-        for (int i = 0; i < sortsAndFaults.length; i += 2) {
-            x.turn(m, sortsAndFaults[i], sortsAndFaults[i + 1]);
-        }
-        return m;
-    }
-
-    /** What one turn makes of a program, and how often it fires. */
-    private static void turns(int sort, int fault, String postfix, String want, int fired) {
-        MakersBench x = withMaker(sort, fault);
-        put(x, 0, postfix);
-        x.made(0, 0, 1);
-        String what = "sort " + sort + " fault " + fault + " of " + postfix;
-        same(what, toldPart(x), want);
-        is("fires: " + what, x.fires(0, 0, 0), fired);
     }
 
     private static void newObject() {
@@ -661,15 +573,6 @@ public final class PromisesTest {
         is("fires", x.fires(0, 0, 0), 6);
     }
 
-    /** Behind a space, a leaf and as many NEG as make this many NODES. */
-    private static String chain(String leaf, int nodes) {
-        StringBuilder out = new StringBuilder(" " + leaf);
-        for (int i = 1; i < nodes; i++) {
-            out.append(" neg");
-        }
-        return out.toString();
-    }
-
     private static void twiceLimit(String postfix, int want) {
         MakersBench x = withMaker(5, 0);
         put(x, 0, postfix);
@@ -710,6 +613,29 @@ public final class PromisesTest {
         turns(3, 0, "#1 #0 a b if #7 if", "b", 2);
         turns(5, 0, "a #2 * #2 *", "+ + a a + a a", 2);
         turns(6, 0, "a b neg neg neg +", "- a b", 2);
+        // A PART that has become smaller or larger, ahead of another PART that is looked at.
+        turns(0, 0, "#1 neg #2 + #4 +", "#5", 3);
+        turns(1, 1, "#0 a - #0 +", "a", 2);
+        turns(1, 2, "a #0 * #1 *", "a", 2);
+        turns(2, 0, "a b + a b + - #0 -", "#0", 2);
+        turns(2, 0, "a a - b b - -", "#0", 3);
+        turns(2, 0, "a a - a -", "- #0 a", 1);
+        turns(3, 0, "#1 #2 #3 if a b if", "a", 2);
+        turns(3, 0, "#1 #0 a b if a if", "b", 2);
+        turns(3, 0, "#0 a #1 b a if if", "b", 2);
+        turns(4, 0, "a b b if #1 #1 if", "#1", 2);
+        turns(4, 0, "a a b b if b if", "b", 2);
+        turns(4, 0, "a b a b b if if", "b", 2);
+        turns(4, 0, "a b b if #1 #2 if", "if b #1 #2", 1);
+        turns(5, 0, "a #2 * b #2 * + #2 *", "+ + + a a + b b + + a a + b b", 3);
+        turns(5, 1, "a neg #3 * #2 /", "/ + neg a neg a #2", 1);
+        turns(5, 2, "a neg #2 / #2 *", "+ - neg a neg a - neg a neg a", 2);
+        turns(6, 0, "a b neg + #1 neg +", "- - a b #1", 2);
+        turns(6, 0, "a b neg - #1 neg -", "+ + a b #1", 2);
+        turns(6, 1, "a neg b + #1 neg +", "- - a b #1", 2);
+        turns(6, 2, "a b neg - #1 neg -", "- - a b #1", 2);
+        turns(6, 0, "a neg neg b neg +", "- a b", 2);
+        turns(6, 0, "a neg neg b #1 neg if", "if a b neg #1", 1);
         MakersBench x = withMaker(5, 0, 2, 1, 5, 0);
         put(x, 0, "a #2 *");
         is("turns in their order", x.made(0, 0, 3), 1);
