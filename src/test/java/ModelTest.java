@@ -2,8 +2,11 @@ import java.util.ArrayList;
 import java.util.List;
 import java.util.Random;
 
-/** Holds the class against Model in runs of calls drawn from fixed seeds. */
+/** Holds the class against Model in runs of at most 512 calls, drawn from fixed seeds. */
 public final class ModelTest {
+    private static final int MOST_CALLS = 512;
+    /** The most calls that one draw makes: 60 NODES for THE PILE and to bring them together, and one to keep. */
+    private static final int MOST_DRAWN = 125;
     private static final int[] USUAL = {0, 0, 1, 1, 2, 2, 3, -1, -3, 5, 200, 40000, 2000000000,
         Integer.MAX_VALUE, Integer.MIN_VALUE, -2000000000};
 
@@ -20,12 +23,12 @@ public final class ModelTest {
     }
 
     public static void main(String[] args) {
-        int runs = args.length > 0 ? Integer.parseInt(args[0]) : 1500;
+        int runs = args.length > 0 ? Integer.parseInt(args[0]) : 3000;
         Due due = new Due();
         for (int seed = 0; seed < runs && !due.anyWrong(); seed++) {
             new ModelTest(due, seed).run();
-            if (seed % 3 == 0) {
-                new ModelTest(due, seed).runLarge();
+            for (int n = -1; n <= 10 && seed % 6 == 0; n++) {
+                new ModelTest(due, seed).runLarge(n);
             }
         }
         byNumber(due);
@@ -37,17 +40,32 @@ public final class ModelTest {
     // ---- runs of calls
 
     private void run() {
-        int most = 100 + random.nextInt(200);
+        int most = 100 + random.nextInt(MOST_CALLS - MOST_DRAWN - 100);
         while (calls < most && !due.anyWrong()) {
             draw();
         }
-        for (int place = 0; place < 20; place++) {
+        int first = below(20);
+        for (int i = 0; i < 20; i++) {
+            int place = (first + i) % 20;
             compareTree("read at the end, place " + place, model.places[place], place);
         }
+        due.holds("at most 512 calls, not " + calls, calls <= MOST_CALLS);
     }
 
-    /** Trees that TWICE makes as large as may be, with all kinds in them, and the other sorts behind it. */
-    private void runLarge() {
+    /** Whether so many calls more may be made; if so, they are counted. */
+    private boolean take(int more) {
+        if (calls + more > MOST_CALLS) {
+            return false;
+        }
+        calls += more;
+        return true;
+    }
+
+    /**
+     * Trees that TWICE makes as large as may be, with all kinds in them, and the other sorts behind it. With n from
+     * 0 on, what the first n turns make is looked at; else, what can be asked of them all.
+     */
+    private void runLarge(int n) {
         due.topic("large, " + random.nextInt());
         int doubles = 3 + below(4);
         grow(1 + below(12));
@@ -68,24 +86,38 @@ public final class ModelTest {
             int sort = i == 0 || i == 3 ? 5 : below(7), fault = below(2) == 0 ? 0 : below(3);
             check("turn", bench.turn(0, sort, fault), model.turn(0, sort, fault));
         }
-        for (int n = 0; n <= 10; n++) {
+        if (n < 0) {
+            askLarge();
+        } else {
             check("made(0, 0, " + n + ")", bench.made(0, 0, n), model.made(0, 0, n));
-            List<Model.Node> nodes = new ArrayList<>();
-            Model.list(model.found, nodes);
-            for (int i = 0; i < nodes.size(); i++) {
-                due.is("KIND of part " + i, bench.part(i, 0), nodes.get(i).kind());
-                due.is("v of part " + i, bench.part(i, 1), nodes.get(i).v());
-                due.is("SIZE of part " + i, bench.part(i, 2), nodes.get(i).size());
-            }
-            due.is("nothing behind", bench.part(nodes.size(), 0), Model.VOID);
+            compareFound();
         }
+        due.holds("at most 512 calls, not " + calls, calls <= MOST_CALLS);
+    }
+
+    private void askLarge() {
         for (int a = -2; a <= 2; a++) {
             check("answer", bench.answer(0, 0, a, 1), model.answer(0, 0, a, 1));
             check("cost", bench.cost(0, 0, a, 1), model.cost(0, 0, a, 1));
             check("cause", bench.cause(0, 0, a, 1), model.cause(0, 0, a, 1));
         }
+        for (int i = 0; i < 10; i++) {
+            check("fires(0, 0, " + i + ")", bench.fires(0, 0, i), model.fires(0, 0, i));
+        }
         check("never(0)", bench.never(0), model.never(0));
         check("first(0, 0, 2)", bench.first(0, 0, 2), model.first(0, 0, 2));
+    }
+
+    /** Of a large tree there are not calls enough for v and SIZE of each NODE: the one or the other. */
+    private void compareFound() {
+        List<Model.Node> nodes = new ArrayList<>();
+        Model.list(model.found, nodes);
+        for (int i = 0; i < nodes.size() && take(2); i++) {
+            due.is("KIND of part " + i, bench.part(i, 0), nodes.get(i).kind());
+            int what = 1 + below(2);
+            due.is("what " + what + " of part " + i, bench.part(i, what), Model.tell(nodes.get(i), 0, what));
+        }
+        check("nothing behind", bench.part(nodes.size(), 0), Model.VOID);
     }
 
     private void check(String call, long got, long want) {
@@ -220,6 +252,7 @@ public final class ModelTest {
                 check("nth(" + p + ", " + n + ", " + i + ")", bench.nth(p, n, i), right ? n : -1);
                 if (right) {
                     model.places[p] = readTree(p);
+                    calls += 2 * model.places[p].size();
                     check("number(" + p + ")", bench.number(p), i);
                     check("SIZE", model.places[p].size(), n);
                 }
@@ -289,7 +322,7 @@ public final class ModelTest {
             case 0: case 1: {
                 int n = model.mk(m) == null ? 0 : near(model.mk(m).size() + 1);
                 check("made(" + m + ", " + p + ", " + n + ")", bench.made(m, p, n), model.made(m, p, n));
-                for (int i = 0; model.found != null && i <= model.found.size(); i++) {
+                for (int i = 0; model.found != null && i <= model.found.size() && take(4); i++) {
                     for (int w = 0; w < 4; w++) {
                         due.is("part(" + i + ", " + w + ")", bench.part(i, w), model.part(i, w));
                     }
@@ -369,7 +402,7 @@ public final class ModelTest {
 
     private void compareTree(String what, Model.Node tree, int place) {
         int size = tree == null ? 0 : tree.size();
-        for (int i = 0; i <= size; i++) {
+        for (int i = 0; i <= size && take(3); i++) {
             for (int w = 0; w < 3; w++) {
                 due.is(what + ", NODE " + i + ", what " + w, bench.read(place, i, w), Model.tell(tree, i, w));
             }
@@ -390,6 +423,7 @@ public final class ModelTest {
             List<Model.Node> all = Model.all(n);
             due.is("many(" + n + ")", bench.many(n), all.size());
             for (int i = 0; i < all.size(); i++) {
+                bench = new MakersBench();
                 due.is("nth(0, " + n + ", " + i + ")", bench.nth(0, n, i), n);
                 due.holds("the program " + i + " of " + n, readTree(bench, 0, new int[] {0}).equals(all.get(i)));
                 due.is("number(0)", bench.number(0), i);
@@ -405,6 +439,7 @@ public final class ModelTest {
         for (int n = 6; n <= 15; n++) {
             long all = bench.many(n);
             for (int round = 0; round < 400; round++) {
+                bench = new MakersBench();
                 long i = round == 0 ? 0 : (long) (random.nextDouble() * (all - 1));
                 long j = round < 200 ? i + 1 : i + 1 + (long) (random.nextDouble() * (all - 1 - i));
                 bench.nth(0, n, i);
